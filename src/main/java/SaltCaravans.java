@@ -172,31 +172,13 @@ public final class SaltCaravans {
     }
 
     public int orders(int caravan) throws IndexOutOfBoundsException, IllegalArgumentException {
-        boolean right = readOrders.readFrom(tape);
-        int wrong = tape.at;
-        tape.length = 0;
-        if (!hasCaravan(caravan)) {
-            throw new IndexOutOfBoundsException("there is no such caravan");
-        }
-        firstWrong = right ? NONE : wrong;
-        if (!right) {
-            throw new IllegalArgumentException("the text is wrong");
-        }
+        judgeText(caravan, readOrders.readFrom(tape));
         caravans[caravan].takeOrders(readOrders);
         return readOrders.count;
     }
 
     public int contract(int caravan) throws IndexOutOfBoundsException, IllegalArgumentException {
-        boolean right = readContract.readFrom(tape);
-        int wrong = tape.at;
-        tape.length = 0;
-        if (!hasCaravan(caravan)) {
-            throw new IndexOutOfBoundsException("there is no such caravan");
-        }
-        firstWrong = right ? NONE : wrong;
-        if (!right) {
-            throw new IllegalArgumentException("the text is wrong");
-        }
+        judgeText(caravan, readContract.readFrom(tape));
         caravans[caravan].told.copyFrom(readContract);
         return readContract.shares;
     }
@@ -385,6 +367,18 @@ public final class SaltCaravans {
 
     private boolean hasCaravan(int number) {
         return number >= 0 && number < caravanCount;
+    }
+
+    // The tape is used up first, as it is also by a call that throws.
+    private void judgeText(int caravan, boolean right) {
+        tape.length = 0;
+        if (!hasCaravan(caravan)) {
+            throw new IndexOutOfBoundsException("there is no such caravan");
+        }
+        firstWrong = right ? NONE : tape.at;
+        if (!right) {
+            throw new IllegalArgumentException("the text is wrong");
+        }
     }
 
     private int caravansAt(int station) {
