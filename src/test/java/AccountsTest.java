@@ -113,7 +113,7 @@ public final class AccountsTest {
     }
 
     private static void setsOutAgain() {
-        // A caravan that was told at the market has not set out: its contract does not count yet.
+        // Neither a contract told at the market nor a wrong text changes what counts.
         SaltCaravans x = world(10, 100, 5);
         x.caravan(0, 5, 0);
         Checks.giveContract(x, 0, "tribe 1 lost tribe 5");
@@ -187,7 +187,7 @@ public final class AccountsTest {
     }
 
     private static void theDearestLoss() {
-        // 500 camels with a tenth of a day's water less than they need lose slabs for a great price.
+        // The largest caravan, the largest number: the payment must not run over.
         SaltCaravans x = dryWay(500, "owner 1 lost tribe 999999");
         x.days(12);
         Checks.due("nothing LOST yet", x.count(6), 0);
@@ -210,7 +210,7 @@ public final class AccountsTest {
         Checks.giveOrders(x, 0, "sell 1;again");
         x.days(199);
         // 100 sells with three shares each would be 300 more: the last one has room for two.
-        Checks.due("100 sells", x.count(5), 101);
+        Checks.due("100 sells and the other caravan's", x.count(5), 101);
         Checks.due("300 ENTRIES", x.count(9), 300);
         dueEntry(x, 299, 0, DRIVER, 202, 333);
         dueEntry(x, 298, 0, OWNER, 202, 334);
