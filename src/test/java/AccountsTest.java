@@ -1,6 +1,5 @@
 /** Promises 8, 15, 16 and 17: contracts that count, entries, putting right, and balances. */
 public final class AccountsTest {
-    private static final int NONE = SaltCaravans.NONE;
     private static final int OWNER = 0;
     private static final int DRIVER = 1;
     private static final int TRIBE = 2;
@@ -16,90 +15,67 @@ public final class AccountsTest {
         lossesArePaid();
         lossesWithoutLost();
         lossesOfNothing();
-        theDearestLoss();
-        threeHundredEntries();
         putRight();
         putRightOnOneDay();
-        aHundredTimes();
         balances();
-        wrongEntries();
-        wrongCorrections();
-        wrongBalances();
         Checks.finish();
     }
 
-    /** Lake 0 and market 1, a day apart, and a caravan at the lake. */
-    private static SaltCaravans world(int top, int fall, int camels) {
-        SaltCaravans x = new SaltCaravans();
-        x.station(Checks.LAKE, 0, 0, 0);
-        x.station(Checks.MARKET, top, fall, 0);
-        x.stage(0, 1, 1);
-        x.caravan(0, camels, 0);
-        return x;
-    }
-
-    private static void dueEntry(SaltCaravans x, int entry, int caravan, int party, int day, int money) {
-        int[] want = {caravan, party, day, money, money};
-        for (int what = 0; what < 5; what++) {
-            Checks.due("entry " + entry + " what " + what, x.entry(entry, what), want[what]);
-        }
-    }
-
     private static void withoutAContract() {
-        SaltCaravans x = world(10, 100, 5);
+        SaltCaravans x = Worlds.lakeAndMarket(10, 100, 5);
         Checks.giveOrders(x, 0, "load 7;go 1;sell 7");
         x.days(3);
         Checks.due("one ENTRY", x.count(9), 1);
-        dueEntry(x, 0, 0, OWNER, 3, 70);
+        Checks.dueEntry(x, 0, 0, OWNER, 3, 70, 70);
     }
 
     private static void sharesInTheirOrder() {
-        SaltCaravans x = world(10, 100, 5);
+        SaltCaravans x = Worlds.lakeAndMarket(10, 100, 5);
         Checks.giveContract(x, 0, "tribe 1,driver 2,owner 4");
         Checks.giveOrders(x, 0, "load 7;go 1;sell 7");
         x.days(3);
         Checks.due("three ENTRIES", x.count(9), 3);
-        dueEntry(x, 0, 0, TRIBE, 3, 10);
-        dueEntry(x, 1, 0, DRIVER, 3, 20);
-        dueEntry(x, 2, 0, OWNER, 3, 40);
+        Checks.dueEntry(x, 0, 0, TRIBE, 3, 10, 10);
+        Checks.dueEntry(x, 1, 0, DRIVER, 3, 20, 20);
+        Checks.dueEntry(x, 2, 0, OWNER, 3, 40, 40);
     }
 
     private static void theRestIsTheFirstOnes() {
-        SaltCaravans x = world(10, 100, 5);
+        SaltCaravans x = Worlds.lakeAndMarket(10, 100, 5);
         Checks.giveContract(x, 0, "driver 33,owner 33,tribe 33");
         Checks.giveOrders(x, 0, "load 8;go 1;sell 8");
         x.days(3);
-        dueEntry(x, 0, 0, DRIVER, 3, 28);
-        dueEntry(x, 1, 0, OWNER, 3, 26);
-        dueEntry(x, 2, 0, TRIBE, 3, 26);
+        Checks.dueEntry(x, 0, 0, DRIVER, 3, 28, 28);
+        Checks.dueEntry(x, 1, 0, OWNER, 3, 26, 26);
+        Checks.dueEntry(x, 2, 0, TRIBE, 3, 26, 26);
         // A first SHARE of 0 has the rest too.
-        SaltCaravans y = world(10, 100, 5);
+        SaltCaravans y = Worlds.lakeAndMarket(10, 100, 5);
         Checks.giveContract(y, 0, "owner 0,tribe 1,driver 2");
         Checks.giveOrders(y, 0, "load 8;go 1;sell 8");
         y.days(3);
-        dueEntry(y, 0, 0, OWNER, 3, 1);
-        dueEntry(y, 1, 0, TRIBE, 3, 26);
-        dueEntry(y, 2, 0, DRIVER, 3, 53);
+        Checks.dueEntry(y, 0, 0, OWNER, 3, 1, 1);
+        Checks.dueEntry(y, 1, 0, TRIBE, 3, 26, 26);
+        Checks.dueEntry(y, 2, 0, DRIVER, 3, 53, 53);
     }
 
     private static void sharesOfNothingAreNotWritten() {
-        SaltCaravans x = world(10, 100, 5);
+        SaltCaravans x = Worlds.lakeAndMarket(10, 100, 5);
         Checks.giveContract(x, 0, "owner 0,tribe 0,driver 2");
         Checks.giveOrders(x, 0, "load 8;go 1;sell 8");
         x.days(3);
         Checks.due("one ENTRY", x.count(9), 1);
-        dueEntry(x, 0, 0, DRIVER, 3, 80);
+        Checks.dueEntry(x, 0, 0, DRIVER, 3, 80, 80);
         // 1 of 99 + 99 + 1 parts: each part of the money 1 is 0, the rest is the first one's.
-        SaltCaravans y = world(1, 100, 5);
+        SaltCaravans y = Worlds.lakeAndMarket(1, 100, 5);
         Checks.giveContract(y, 0, "tribe 1,owner 99,driver 99");
         Checks.giveOrders(y, 0, "load 1;go 1;sell 1");
         y.days(3);
         Checks.due("one ENTRY", y.count(9), 1);
-        dueEntry(y, 0, 0, TRIBE, 3, 1);
+        Checks.dueEntry(y, 0, 0, TRIBE, 3, 1, 1);
     }
 
     private static void theContractAsItStood() {
-        SaltCaravans x = world(10, 100, 5);
+        SaltCaravans x = Worlds.lakeAndMarket(10, 100, 5);
         Checks.giveOrders(x, 0, "load 20;go 1;sell 1;sell 1;go 0;go 1;sell 1");
         x.days(2);
         Checks.giveContract(x, 0, "driver 1");
@@ -114,7 +90,7 @@ public final class AccountsTest {
 
     private static void setsOutAgain() {
         // Neither a contract told at the market nor a wrong text changes what counts.
-        SaltCaravans x = world(10, 100, 5);
+        SaltCaravans x = Worlds.lakeAndMarket(10, 100, 5);
         x.caravan(0, 5, 0);
         Checks.giveContract(x, 0, "tribe 1 lost tribe 5");
         Checks.giveOrders(x, 0, "load 8;go 1;sell 4;sell 4");
@@ -131,7 +107,7 @@ public final class AccountsTest {
     }
 
     private static void goThatCannotBe() {
-        SaltCaravans x = world(10, 100, 5);
+        SaltCaravans x = Worlds.lakeAndMarket(10, 100, 5);
         Checks.giveOrders(x, 0, "load 9;go 1;go 1;sell 9");
         x.days(2);
         Checks.giveContract(x, 0, "tribe 1");
@@ -140,29 +116,13 @@ public final class AccountsTest {
         Checks.due("so the tribe has nothing", x.balance(0, TRIBE, 9, 9), 0);
     }
 
-    /** Lake 0, an all but empty well 1, town 2, nine days each. */
-    private static SaltCaravans dryWay(int camels, String contract) {
-        SaltCaravans x = new SaltCaravans();
-        x.station(Checks.LAKE, 0, 0, 0);
-        x.station(Checks.WELL, 0, 1, NONE);
-        x.station(Checks.TOWN, 0, 0, 0);
-        x.stage(0, 1, 9);
-        x.stage(1, 2, 9);
-        x.caravan(0, camels, 0);
-        if (!contract.isEmpty()) {
-            Checks.giveContract(x, 0, contract);
-        }
-        Checks.giveOrders(x, 0, "load 999999;go 1;go 2");
-        return x;
-    }
-
     private static void lossesArePaid() {
-        SaltCaravans x = dryWay(20, "owner 1 lost driver 3");
+        SaltCaravans x = Worlds.dryWay(20, 1, "owner 1 lost driver 3", "load 999999;go 1;go 2");
         x.days(13);
-        dueEntry(x, 0, 0, DRIVER, 13, -3 * 40);
+        Checks.dueEntry(x, 0, 0, DRIVER, 13, -3 * 40, -3 * 40);
         Checks.giveContract(x, 0, "owner 1 lost tribe 7");
         x.days(1);
-        dueEntry(x, 1, 0, DRIVER, 14, -3 * 20);
+        Checks.dueEntry(x, 1, 0, DRIVER, 14, -3 * 20, -3 * 20);
         x.days(10);
         Checks.due("each day is an ENTRY of its own", x.count(9), 5);
         Checks.due("all SLABS", x.balance(0, DRIVER, 99, 99), -3 * 80);
@@ -170,8 +130,8 @@ public final class AccountsTest {
     }
 
     private static void lossesWithoutLost() {
-        SaltCaravans x = dryWay(20, "owner 1");
-        SaltCaravans y = dryWay(20, "");
+        SaltCaravans x = Worlds.dryWay(20, 1, "owner 1", "load 999999;go 1;go 2");
+        SaltCaravans y = Worlds.dryWay(20, 1, "", "load 999999;go 1;go 2");
         x.days(15);
         y.days(15);
         Checks.due("no lost, no ENTRY", x.count(9), 0);
@@ -180,53 +140,15 @@ public final class AccountsTest {
     }
 
     private static void lossesOfNothing() {
-        SaltCaravans x = dryWay(20, "owner 1 lost driver 0");
+        SaltCaravans x = Worlds.dryWay(20, 1, "owner 1 lost driver 0", "load 999999;go 1;go 2");
         x.days(15);
         Checks.due("a payment of 0 is no ENTRY", x.count(9), 0);
         Checks.due("LOST", x.count(6), 72);
     }
 
-    private static void theDearestLoss() {
-        // The largest caravan, the largest number: the payment must not run over.
-        SaltCaravans x = dryWay(500, "owner 1 lost tribe 999999");
-        x.days(12);
-        Checks.due("nothing LOST yet", x.count(6), 0);
-        x.days(1);
-        Checks.due("499 are lacking, 250 died", x.state(0, 2), 250);
-        Checks.due("1000 SLABS", x.entry(0, 3), -999999000);
-        x.correct(0, 1000000);
-        Checks.due("put right by much", x.balance(0, TRIBE, 99, 99), 1000000);
-        Checks.due("at first", x.entry(0, 4), -999999000);
-    }
-
-    private static void threeHundredEntries() {
-        SaltCaravans x = world(1000, 100, 500);
-        Checks.giveContract(x, 0, "owner 1,driver 1,tribe 1");
-        Checks.giveOrders(x, 0, "load 2000;go 1;wait 1");
-        x.caravan(1, 500, 0);
-        Checks.giveOrders(x, 1, "load 2000;go 1;sell 1;wait 200");
-        x.days(3);
-        Checks.due("one ENTRY of the other caravan", x.count(9), 1);
-        Checks.giveOrders(x, 0, "sell 1;again");
-        x.days(199);
-        // 100 sells with three shares each would be 300 more: the last one has room for two.
-        Checks.due("100 sells and the other caravan's", x.count(5), 101);
-        Checks.due("300 ENTRIES", x.count(9), 300);
-        dueEntry(x, 299, 0, DRIVER, 202, 333);
-        dueEntry(x, 298, 0, OWNER, 202, 334);
-        Checks.due("the tribe's share was not written", x.balance(0, TRIBE, 999, 999), 99 * 333);
-        Checks.due("MONEY of all sells", x.count(10), 101000);
-        x.days(2);
-        Checks.due("no ENTRY more", x.count(9), 300);
-        Checks.due("MONEY all the same", x.count(10), 102000);
-        Checks.dueThrow("entry 300", Checks.INDEX, () -> x.entry(300, 0));
-        Checks.due("the last one can be put right", x.correct(299, 5), true);
-        Checks.due("and is", x.entry(299, 3), 5);
-    }
-
     /** A caravan with an entry of 10 on each of the days 3, 4 and 5, today. */
     private static SaltCaravans threeEntries() {
-        SaltCaravans x = world(10, 100, 5);
+        SaltCaravans x = Worlds.lakeAndMarket(10, 100, 5);
         Checks.giveOrders(x, 0, "load 9;go 1;sell 1;sell 1;sell 1");
         x.days(5);
         return x;
@@ -268,21 +190,8 @@ public final class AccountsTest {
         Checks.due("nothing of it", x.balance(0, OWNER, 5, 5), 20);
     }
 
-    private static void aHundredTimes() {
-        SaltCaravans x = threeEntries();
-        for (int i = 0; i < 100; i++) {
-            Checks.due("correct", x.correct(i % 3, i), true);
-        }
-        Checks.due("101st", x.correct(0, 5), false);
-        Checks.due("nothing happened", x.entry(0, 3), 99);
-        Checks.due("how often", x.count(11), 100);
-        Checks.due("BALANCE", x.balance(0, OWNER, 5, 5), 99 + 97 + 98);
-        Checks.dueThrow("101st of no entry", Checks.INDEX, () -> x.correct(3, 5));
-        Checks.dueThrow("101st of too much", Checks.ARGUMENT, () -> x.correct(0, 1000001));
-    }
-
     private static void balances() {
-        SaltCaravans x = world(10, 100, 5);
+        SaltCaravans x = Worlds.lakeAndMarket(10, 100, 5);
         x.caravan(0, 5, 0);
         Checks.giveContract(x, 0, "owner 3,driver 2");
         Checks.giveOrders(x, 0, "load 9;go 1;sell 2;wait 1;sell 3");
@@ -299,43 +208,5 @@ public final class AccountsTest {
         Checks.due("known below 0", x.balance(0, OWNER, 5, -1), 0);
         Checks.due("least", x.balance(0, OWNER, Integer.MIN_VALUE, Integer.MIN_VALUE), 0);
         Checks.due("most", x.balance(0, OWNER, Integer.MAX_VALUE, Integer.MAX_VALUE), 30);
-    }
-
-    private static void wrongEntries() {
-        SaltCaravans x = threeEntries();
-        int[] noEntry = {-1, 3, 300, Integer.MAX_VALUE, Integer.MIN_VALUE};
-        for (int e : noEntry) {
-            Checks.dueThrow("entry " + e, Checks.INDEX, () -> x.entry(e, 0));
-            Checks.dueThrow("entry " + e + ", of nothing", Checks.INDEX, () -> x.entry(e, 5));
-        }
-        int[] noThing = {-1, 5, Integer.MAX_VALUE, Integer.MIN_VALUE};
-        for (int what : noThing) {
-            Checks.dueThrow("entry of what " + what, Checks.ELEMENT, () -> x.entry(0, what));
-        }
-    }
-
-    private static void wrongCorrections() {
-        SaltCaravans x = threeEntries();
-        Checks.dueThrowAndStay(x, "correct(-1)", Checks.INDEX, () -> x.correct(-1, 0));
-        Checks.dueThrowAndStay(x, "correct(3), too much", Checks.INDEX, () -> x.correct(3, 2000000));
-        Checks.dueThrowAndStay(x, "too much", Checks.ARGUMENT, () -> x.correct(0, 1000001));
-        Checks.dueThrowAndStay(x, "too little", Checks.ARGUMENT, () -> x.correct(0, -1000001));
-        Checks.due("the most", x.correct(0, 1000000), true);
-        Checks.due("the most", x.entry(0, 3), 1000000);
-        Checks.due("the least", x.correct(0, -1000000), true);
-        Checks.due("the least", x.entry(0, 3), -1000000);
-    }
-
-    private static void wrongBalances() {
-        SaltCaravans x = threeEntries();
-        int[] noCaravan = {-1, 1, 12, Integer.MAX_VALUE, Integer.MIN_VALUE};
-        for (int c : noCaravan) {
-            Checks.dueThrow("balance of " + c, Checks.INDEX, () -> x.balance(c, 0, 0, 0));
-            Checks.dueThrow("balance of " + c + ", of no party", Checks.INDEX, () -> x.balance(c, 3, 0, 0));
-        }
-        int[] noParty = {-1, 3, Integer.MAX_VALUE, Integer.MIN_VALUE};
-        for (int p : noParty) {
-            Checks.dueThrow("balance of party " + p, Checks.ARGUMENT, () -> x.balance(0, p, 0, 0));
-        }
     }
 }

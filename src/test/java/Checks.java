@@ -54,6 +54,19 @@ final class Checks {
         due(what + " leaves behind", picture(x), before);
     }
 
+    interface Ask {
+        long of(SaltCaravans x);
+    }
+
+    /** What the call answers, or the name of what it throws. */
+    static String answer(SaltCaravans x, Ask ask) {
+        try {
+            return Long.toString(ask.of(x));
+        } catch (RuntimeException e) {
+            return e.getClass().getSimpleName();
+        }
+    }
+
     static String thrownBy(Call call) {
         try {
             call.run();
@@ -93,6 +106,20 @@ final class Checks {
             }
         }
         return text.toString();
+    }
+
+    /** All of state(), in the order of what. */
+    static void dueState(String when, SaltCaravans x, int caravan, int... want) {
+        for (int what = 0; what < want.length; what++) {
+            due(when + ": state " + what + " of caravan " + caravan, x.state(caravan, what), want[what]);
+        }
+    }
+
+    /** All of entry(), in the order of what. */
+    static void dueEntry(SaltCaravans x, int entry, int... want) {
+        for (int what = 0; what < want.length; what++) {
+            due("entry " + entry + " what " + what, x.entry(entry, what), want[what]);
+        }
     }
 
     /** Puts a text on an empty tape. */

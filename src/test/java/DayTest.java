@@ -3,8 +3,6 @@ public final class DayTest {
     private static final int NONE = SaltCaravans.NONE;
 
     public static void main(String[] args) {
-        daysAreCounted();
-        wrongDays();
         wellsFill();
         marketsForget();
         waterOnAStage();
@@ -20,28 +18,7 @@ public final class DayTest {
         pricesAreKnownAtMarkets();
         lettersTellTheLatest();
         lettersComeAheadOfOrders();
-        wrongLooks();
-        wrongStates();
-        wrongKnowsAndLost();
         Checks.finish();
-    }
-
-    private static void daysAreCounted() {
-        SaltCaravans x = new SaltCaravans();
-        Checks.due("days(0)", x.days(0), 0);
-        Checks.due("days(1)", x.days(1), 1);
-        Checks.due("days(200)", x.days(200), 201);
-        Checks.due("TODAY", x.count(0), 201);
-    }
-
-    private static void wrongDays() {
-        SaltCaravans x = new SaltCaravans();
-        x.days(3);
-        int[] wrong = {-1, 201, Integer.MAX_VALUE, Integer.MIN_VALUE};
-        for (int n : wrong) {
-            Checks.dueThrowAndStay(x, "days " + n, Checks.ARGUMENT, () -> x.days(n));
-        }
-        Checks.due("TODAY stays", x.days(0), 3);
     }
 
     private static void wellsFill() {
@@ -67,18 +44,8 @@ public final class DayTest {
         Checks.due("FLOW more", y.look(0, 1), 25 - 6 + 2);
     }
 
-    /** A lake 0 and a market 1, a day apart, with a caravan at the lake. */
-    private static SaltCaravans lakeAndMarket(int top, int fall, int camels) {
-        SaltCaravans x = new SaltCaravans();
-        x.station(Checks.LAKE, 0, 0, 0);
-        x.station(Checks.MARKET, top, fall, 0);
-        x.stage(0, 1, 1);
-        x.caravan(0, camels, 0);
-        return x;
-    }
-
     private static void marketsForget() {
-        SaltCaravans x = lakeAndMarket(5, 2, 3);
+        SaltCaravans x = Worlds.lakeAndMarket(5, 2, 3);
         Checks.giveOrders(x, 0, "load 7;go 1;sell 7");
         x.days(3);
         Checks.due("SOLD", x.look(1, 2), 7);
@@ -116,22 +83,9 @@ public final class DayTest {
         Checks.due("one is there", x.look(1, 3), 1);
     }
 
-    /** Lake 0, a well 1 without water to speak of, town 2: 9 days each; the caravan runs dry behind the well. */
-    private static SaltCaravans dryWay(int camels, String orders) {
-        SaltCaravans x = new SaltCaravans();
-        x.station(Checks.LAKE, 0, 0, 0);
-        x.station(Checks.WELL, 0, 1, NONE);
-        x.station(Checks.TOWN, 0, 0, 0);
-        x.stage(0, 1, 9);
-        x.stage(1, 2, 9);
-        x.caravan(1, camels, 0);
-        Checks.giveOrders(x, 0, orders);
-        return x;
-    }
-
     private static void camelsDie() {
         // 20 camels have 200; 180 are gone at the well, which gives 1: 21, then 1, then 19 are lacking.
-        SaltCaravans x = dryWay(20, "load 78;go 1;go 2");
+        SaltCaravans x = Worlds.dryWay(20, 1, "", "load 78;go 1;go 2");
         x.days(12);
         Checks.due("WATER behind the well", x.state(0, 4), 1);
         Checks.due("CAMELS", x.state(0, 2), 20);
@@ -153,7 +107,7 @@ public final class DayTest {
 
     private static void fewSlabsAreKept() {
         // The slabs are so few that the camels that are left can carry them.
-        SaltCaravans x = dryWay(20, "load 20;go 1;go 2");
+        SaltCaravans x = Worlds.dryWay(20, 1, "", "load 20;go 1;go 2");
         x.days(13);
         Checks.due("10 CAMELS carry 20 SLABS", x.state(0, 3), 20);
         Checks.due("nothing LOST", x.count(6), 0);
@@ -163,7 +117,7 @@ public final class DayTest {
     }
 
     private static void goneOnTheWay() {
-        SaltCaravans x = dryWay(4, "load 3;go 1;go 2;again");
+        SaltCaravans x = Worlds.dryWay(4, 1, "", "load 3;go 1;go 2;again");
         x.days(15);
         int[] want = {2, 2, 0, 0, 0, 0, 11, 3};
         for (int what = 0; what < 8; what++) {
@@ -212,7 +166,7 @@ public final class DayTest {
     }
 
     private static void lostGoesByWays() {
-        SaltCaravans x = dryWay(20, "load 80;go 1;go 2");
+        SaltCaravans x = Worlds.dryWay(20, 1, "", "load 80;go 1;go 2");
         x.caravan(0, 20, 0);
         Checks.giveOrders(x, 1, "load 80;go 1;go 2");
         x.days(13);
@@ -294,7 +248,7 @@ public final class DayTest {
     }
 
     private static void pricesAreKnownAtMarkets() {
-        SaltCaravans x = lakeAndMarket(10, 1, 2);
+        SaltCaravans x = Worlds.lakeAndMarket(10, 1, 2);
         x.caravan(0, 1, 1);
         Checks.due("nothing on the day it is told", x.knows(1, 1, false), NONE);
         Checks.giveOrders(x, 0, "load 8;go 1;sell 3;go 0");
@@ -354,45 +308,5 @@ public final class DayTest {
         Checks.giveOrders(x, 1, "go 0");
         x.days(2);
         Checks.due("it has set out", x.state(0, 0), 1);
-    }
-
-    private static void wrongLooks() {
-        SaltCaravans x = lakeAndMarket(5, 5, 1);
-        int[] noStation = {-1, 2, 12, Integer.MAX_VALUE, Integer.MIN_VALUE};
-        for (int s : noStation) {
-            Checks.dueThrow("look at " + s, Checks.INDEX, () -> x.look(s, 0));
-            Checks.dueThrow("look at " + s + " for nothing", Checks.INDEX, () -> x.look(s, 9));
-        }
-        int[] noThing = {-1, 4, Integer.MAX_VALUE, Integer.MIN_VALUE};
-        for (int what : noThing) {
-            Checks.dueThrow("look for " + what, Checks.ELEMENT, () -> x.look(1, what));
-        }
-        Checks.due("a lake has nothing", x.look(0, 1), 0);
-        Checks.due("a lake has no SOLD", x.look(0, 2), 0);
-    }
-
-    private static void wrongStates() {
-        SaltCaravans x = lakeAndMarket(5, 5, 1);
-        int[] noCaravan = {-1, 1, 12, Integer.MAX_VALUE, Integer.MIN_VALUE};
-        for (int c : noCaravan) {
-            Checks.dueThrow("state of " + c, Checks.INDEX, () -> x.state(c, 0));
-            Checks.dueThrow("state of " + c + ", of nothing", Checks.INDEX, () -> x.state(c, 8));
-        }
-        int[] noThing = {-1, 8, Integer.MAX_VALUE, Integer.MIN_VALUE};
-        for (int what : noThing) {
-            Checks.dueThrow("state of what " + what, Checks.ELEMENT, () -> x.state(0, what));
-        }
-    }
-
-    private static void wrongKnowsAndLost() {
-        SaltCaravans x = lakeAndMarket(5, 5, 1);
-        int[][] wrong = {{-1, 0}, {1, 0}, {0, -1}, {0, 2}, {12, 12}, {Integer.MAX_VALUE, Integer.MIN_VALUE}};
-        for (int[] a : wrong) {
-            Checks.dueThrow("knows " + a[0] + " " + a[1], Checks.INDEX, () -> x.knows(a[0], a[1], true));
-        }
-        int[][] noWay = {{-1, 0}, {2, 0}, {0, -1}, {0, 2}, {12, 12}, {Integer.MAX_VALUE, Integer.MIN_VALUE}};
-        for (int[] a : noWay) {
-            Checks.dueThrow("lost " + a[0] + " " + a[1], Checks.INDEX, () -> x.lost(a[0], a[1]));
-        }
     }
 }

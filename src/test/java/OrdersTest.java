@@ -6,8 +6,6 @@ public final class OrdersTest {
         theReadmesRun();
         oneOrderADay();
         goNeedsAStage();
-        loadAtALakeAlone();
-        loadAsFarAsThereIsRoom();
         sellAtAMarketAlone();
         sellSlabBySlab();
         sellForNothing();
@@ -15,8 +13,6 @@ public final class OrdersTest {
         waitSoManyDays();
         waitBehindIf();
         againGoesOn();
-        ifBelow();
-        ifAbove();
         ifNothingIsKnown();
         newOrdersBeginAtTheFirst();
         newOrdersOnAStage();
@@ -85,36 +81,6 @@ public final class OrdersTest {
         x.days(1);
         Checks.due("both ways: market to town", x.state(0, 1), 2);
         Checks.due("DAYS to go", x.state(0, 5), 2);
-    }
-
-    private static void loadAtALakeAlone() {
-        SaltCaravans x = world(10, 1, 2);
-        x.caravan(0, 2, 1);
-        x.caravan(0, 2, 2);
-        Checks.giveOrders(x, 0, "load 3");
-        Checks.giveOrders(x, 1, "load 3");
-        Checks.giveOrders(x, 2, "load 3");
-        x.days(1);
-        Checks.due("at a lake", x.state(0, 3), 3);
-        Checks.due("at a market", x.state(1, 3), 0);
-        Checks.due("in a town", x.state(2, 3), 0);
-        Checks.due("their turn is over", x.state(1, 7), 1);
-        Checks.due("loaded in all", x.count(4), 3);
-    }
-
-    private static void loadAsFarAsThereIsRoom() {
-        SaltCaravans x = world(10, 1, 500);
-        Checks.giveOrders(x, 0, "load 0;load 1999;load 999999;load 1");
-        x.days(1);
-        Checks.due("load 0", x.state(0, 3), 0);
-        x.days(1);
-        Checks.due("load 1999", x.state(0, 3), 1999);
-        x.days(1);
-        Checks.due("4 a CAMEL at most", x.state(0, 3), 2000);
-        x.days(1);
-        Checks.due("it is full", x.state(0, 3), 2000);
-        Checks.due("loaded in all", x.count(4), 2000);
-        Checks.due("carried now", x.count(7), 2000);
     }
 
     private static void sellAtAMarketAlone() {
@@ -220,32 +186,6 @@ public final class OrdersTest {
         x.days(194);
         Checks.due("it goes on: loaded", x.count(4), 3 * 40);
         Checks.due("it goes on: sold", x.count(5), 3 * 40);
-    }
-
-    private static void ifBelow() {
-        int[] bounds = {9, 10, 11};
-        int[] want = {0, 0, 1};
-        for (int i = 0; i < 3; i++) {
-            SaltCaravans x = world(10, 1, 1);
-            x.caravan(0, 1, 1);
-            Checks.giveOrders(x, 1, "if 1 < " + bounds[i] + " go 2;again");
-            x.days(1);
-            Checks.due("10 below " + bounds[i], x.state(1, 0), want[i]);
-            Checks.due("its turn is over", x.state(1, 7), 1);
-        }
-    }
-
-    private static void ifAbove() {
-        int[] bounds = {9, 10, 11};
-        int[] want = {1, 0, 0};
-        for (int i = 0; i < 3; i++) {
-            SaltCaravans x = world(10, 1, 1);
-            x.caravan(0, 1, 1);
-            Checks.giveOrders(x, 1, "if 1 > " + bounds[i] + " go 2;again");
-            x.days(1);
-            Checks.due("10 above " + bounds[i], x.state(1, 0), want[i]);
-            Checks.due("its turn is over", x.state(1, 7), 1);
-        }
     }
 
     private static void ifNothingIsKnown() {

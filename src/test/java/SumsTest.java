@@ -6,9 +6,7 @@ public final class SumsTest {
         splitOfSeveralMarkets();
         splitOfWhatWasSold();
         splitOfMuch();
-        wrongSplits();
         countsOfARun();
-        countsOfNothing();
         Checks.finish();
     }
 
@@ -80,14 +78,6 @@ public final class SumsTest {
         Checks.due("but for one", y.split(999), 500499);
     }
 
-    private static void wrongSplits() {
-        SaltCaravans x = new SaltCaravans();
-        int[] wrong = {-1, 5001, Integer.MAX_VALUE, Integer.MIN_VALUE};
-        for (int n : wrong) {
-            Checks.dueThrow("split " + n, Checks.ARGUMENT, () -> x.split(n));
-        }
-    }
-
     private static void countsOfARun() {
         SaltCaravans x = new SaltCaravans();
         x.station(Checks.LAKE, 0, 0, 0);
@@ -109,14 +99,6 @@ public final class SumsTest {
         long[] want = {15, 3, 2, 3, 15, 5, 7, 3, 2, 3, 40, 2};
         for (int what = 0; what < 12; what++) {
             Checks.due("count " + what, x.count(what), want[what]);
-        }
-    }
-
-    private static void countsOfNothing() {
-        SaltCaravans x = new SaltCaravans();
-        int[] none = {-1, 12, Integer.MAX_VALUE, Integer.MIN_VALUE};
-        for (int what : none) {
-            Checks.due("count " + what, x.count(what), SaltCaravans.NONE);
         }
     }
 }

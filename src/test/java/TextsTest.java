@@ -3,13 +3,9 @@ public final class TextsTest {
     public static void main(String[] args) {
         rightOrders();
         wrongOrders();
-        thirteenOrders();
-        bytesThatAreNone();
         rightContracts();
         wrongContracts();
-        longTexts();
         wrongTextsChangeNothing();
-        faultTellsOfTheLatest();
         Checks.finish();
     }
 
@@ -76,41 +72,6 @@ public final class TextsTest {
         Checks.dueOrdersFault(x, "load 5;goo 1", 7);
     }
 
-    private static String again(int times) {
-        StringBuilder text = new StringBuilder("again");
-        for (int i = 1; i < times; i++) {
-            text.append(";again");
-        }
-        return text.toString();
-    }
-
-    private static void thirteenOrders() {
-        SaltCaravans x = withCaravan();
-        Checks.dueOrders(x, again(12), 12);
-        Checks.dueOrdersFault(x, again(13), 72);
-        Checks.dueOrdersFault(x, again(12) + ";  if 1 < 2 go 1", 74);
-        Checks.dueOrdersFault(x, again(12) + ";", 72);
-        Checks.dueOrdersFault(x, again(12) + "; ", 73);
-        Checks.dueOrdersFault(x, again(12) + " x", 72);
-        Checks.dueOrdersFault(x, again(20), 72);
-    }
-
-    private static void bytesThatAreNone() {
-        for (int b = 0; b < 256; b++) {
-            SaltCaravans x = withCaravan();
-            // Behind the digits of a right order only these few may go on.
-            if (b != ' ' && !(b >= '0' && b <= '9') && b != ';') {
-                Checks.dueOrdersFault(x, "go 1" + (char) b, 4);
-            }
-        }
-        SaltCaravans x = withCaravan();
-        Checks.dueOrdersFault(x, "\tgo 1", 0);
-        Checks.dueOrdersFault(x, "go\n1", 2);
-        Checks.dueOrdersFault(x, (char) 160 + "go 1", 0);
-        Checks.dueContractFault(x, "owner" + (char) 0 + "1", 5);
-        Checks.dueContractFault(x, "owner 1" + (char) 255, 7);
-    }
-
     private static void rightContracts() {
         SaltCaravans x = withCaravan();
         Checks.dueContract(x, "owner 1", 1);
@@ -163,19 +124,6 @@ public final class TextsTest {
         Checks.dueContractFault(x, "go 1", 0);
     }
 
-    private static void longTexts() {
-        SaltCaravans x = withCaravan();
-        String blanks = " ".repeat(396);
-        Checks.dueOrders(x, blanks + "go 1", 1);
-        Checks.dueOrders(x, "go 1" + blanks, 1);
-        Checks.dueOrdersFault(x, " ".repeat(398) + "go", 400);
-        Checks.dueOrdersFault(x, "go 1" + " ".repeat(395) + "x", 399);
-        Checks.dueOrdersFault(x, "9".repeat(400), 0);
-        Checks.dueOrdersFault(x, "a".repeat(400), 0);
-        Checks.dueContract(x, " ".repeat(393) + "owner 1", 1);
-        Checks.dueContractFault(x, "owner 0" + " ".repeat(393), 400);
-    }
-
     private static void wrongTextsChangeNothing() {
         SaltCaravans x = withCaravan();
         Checks.giveOrders(x, 0, "wait 2;go 1");
@@ -194,21 +142,5 @@ public final class TextsTest {
         Checks.dueThrowAndStay(x, "contract of no caravan", Checks.INDEX, () -> x.contract(1));
         Checks.feedText(x, "owner");
         Checks.dueThrowAndStay(x, "contract of no caravan, wrong", Checks.INDEX, () -> x.contract(12));
-    }
-
-    private static void faultTellsOfTheLatest() {
-        SaltCaravans x = withCaravan();
-        Checks.due("fault ahead of any", x.fault(), SaltCaravans.NONE);
-        Checks.feedText(x, "go x");
-        Checks.dueThrow("no such caravan", Checks.INDEX, () -> x.orders(1));
-        Checks.due("a caravan that is not there has no fault", x.fault(), SaltCaravans.NONE);
-        Checks.dueOrdersFault(x, "go x", 3);
-        Checks.due("fault is asked twice", x.fault(), 3);
-        Checks.feedText(x, "go 1");
-        Checks.dueThrow("no such caravan", Checks.INDEX, () -> x.contract(1));
-        Checks.due("the fault stays", x.fault(), 3);
-        Checks.dueContract(x, "owner 1", 1);
-        Checks.dueContractFault(x, "owner x", 6);
-        Checks.dueOrders(x, "go 1", 1);
     }
 }
