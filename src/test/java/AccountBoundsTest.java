@@ -26,6 +26,7 @@ public final class AccountBoundsTest {
         balanceOfOthers();
         splitFromNothingToFiveThousand();
         splitOfTheLastSlabs();
+        splitAtEachPrice();
         countsOfNothing();
         Checks.finish();
     }
@@ -80,6 +81,8 @@ public final class AccountBoundsTest {
         dueShares("owner 1,tribe 10", 1, new int[] {OWNER, TRIBE}, new int[] {1, 9});
         dueShares("owner 0,tribe 5", 1, new int[] {TRIBE}, new int[] {10});
         dueShares("tribe 5,owner 0", 1, new int[] {TRIBE}, new int[] {10});
+        dueShares("owner 0,tribe 1", 1, new int[] {TRIBE}, new int[] {10});
+        dueShares("owner 0,driver 0,tribe 1", 1, new int[] {TRIBE}, new int[] {10});
         dueShares("owner 0,driver 1,tribe 2", 1, new int[] {OWNER, DRIVER, TRIBE}, new int[] {1, 3, 6});
         dueShares("driver 1,owner 99,tribe 99", 1, new int[] {DRIVER, OWNER, TRIBE}, new int[] {2, 4, 4});
     }
@@ -369,6 +372,18 @@ public final class AccountBoundsTest {
         int[] all = {0, 3, 6, 8, 10, 12, 13, 14, 15, 15};
         for (int n = 0; n < all.length; n++) {
             Checks.due("split " + n + " of two markets", z.split(n), all[n]);
+        }
+    }
+
+    // "each slab for its PRICE just then": from the least TOP to the most, within a step of the PRICE and over it
+    private static void splitAtEachPrice() {
+        for (int top = 1; top <= 1000; top++) {
+            SaltCaravans x = new SaltCaravans();
+            x.station(Checks.MARKET, top, 2, 0);
+            int[] want = {0, top, 2 * top, 3 * top - 1, 4 * top - 2};
+            for (int slabs = 0; slabs < want.length; slabs++) {
+                Checks.due("split " + slabs + " at TOP " + top, x.split(slabs), want[slabs]);
+            }
         }
     }
 

@@ -14,6 +14,7 @@ public final class TurnsBoundsTest {
         anEmptyWell();
         theOwnAheadOfThoseThatCameEarlier();
         theEarlierAheadOfLowerNumbers();
+        theLaterBehindWhoeverIsStillThirsty();
         twelveThatCameAtOnce();
         twelveThatCameOnTwoDays();
         twelveWithOneLetter();
@@ -215,6 +216,21 @@ public final class TurnsBoundsTest {
         for (int i = 0; i < want.length; i++) {
             y.days(1);
             dueWater("day " + (6 + i), y, want[i]);
+        }
+    }
+
+    // "the one that CAME earlier": one that comes later takes nothing ahead of it, while it still has room
+    private static void theLaterBehindWhoeverIsStillThirsty() {
+        int[][] want = {{8, 6, 7}, {10, 6, 6}, {10, 9, 5}, {10, 10, 7}, {10, 10, 10}};
+        int[] wellPeople = {NONE, 0, 1};
+        for (int people : wellPeople) {
+            // All are of the PEOPLE 0: all own, or none.
+            SaltCaravans x = toWell(3, 3, people, new int[3], new int[] {0, 1, 2});
+            x.days(5);
+            for (int i = 0; i < want.length; i++) {
+                x.days(1);
+                dueWater("well of " + people + ", day " + (6 + i), x, want[i]);
+            }
         }
     }
 
